@@ -34,12 +34,15 @@ public final class MarkedNames {
     private static final int[] FIRST_NAMES = {
         FN, IF, Q, LS, (1 << 8) | '+', (1 << 8) | '*', (1 << 8) | '=', (1 << 8) | '<'
     };
-    private static final int CORE_FORMS = 4;
 
-    private static final int CORE = 0;
-    private static final int VALUE = 1;
-    private static final int VARIABLE = 2;
-    private static final int RULES = 3;
+    // What a name can mean; the first four are the core forms, in the order of their names above.
+    private static final int FN_FORM = 0;
+    private static final int IF_FORM = 1;
+    private static final int Q_FORM = 2;
+    private static final int LS_FORM = 3;
+    private static final int VALUE = 4;
+    private static final int VARIABLE = 5;
+    private static final int RULES = 6;
 
     private static final int UNBOUND_ERROR = 1;
     private static final int AMBIGUOUS_ERROR = 2;
@@ -104,13 +107,12 @@ public final class MarkedNames {
         if (fuel < 0 || fuel > MOST_FUEL) {
             return -7000;
         }
-        outcome.clear();
-        expander.start(0);
         int fault = takeTyped();
+        outcome.clear();
+        expander.start(fault >= 0 ? 0 : fuel);
         if (fault >= 0) {
             return -1 - fault;
         }
-        expander.start(fuel);
         expander.expandTree(WORK, 0);
         if (outcome.error != 0) {
             outcome.length = 0;
@@ -212,16 +214,12 @@ public final class MarkedNames {
             open = around;
         }
 
-        private boolean holds(int i) {
-            return i >= 0 && i < top && i < PLACES;
-        }
-
         int wordAt(int i) {
             return i >= 0 && i < top && i < PLACES ? word[i] : CLOSE;
         }
 
         int marksAt(int i) {
-            return holds(i) ? marks[i] : 0;
+            return i >= 0 && i < top && i < PLACES ? marks[i] : 0;
         }
 
         /** The place of the variable of which the name at i is a use; -1 if it is none. */
@@ -230,9 +228,21 @@ public final class MarkedNames {
         }
 
         void setVariable(int i, int variable) {
-            if (holds(i)) {
+            if (i >= 0 && i < top && i < PLACES) {
                 use[i] = variable < 0 ? 0 : i - variable;
             }
+        }
+
+        boolean hasUse(int tree) {
+            if (tree < 0 || tree >= top || tree >= PLACES) {
+                return false;
+            }
+            for (int k = tree; k < tree + size[tree] && k < top && k < PLACES; k++) {
+                if (use[k] > 0) {
+                    return true;
+                }
+            }
+            return false;
         }
 
         /** The place behind the tree, or the token, at i; always beyond i. */
@@ -240,20 +250,22 @@ public final class MarkedNames {
             return i >= 0 && i < top && i < PLACES && size[i] > 1 ? i + size[i] : i + 1;
         }
 
+        /** Whether .. stands behind the tree at this place. */
         boolean isHeld(int tree) {
-            return wordAt(tree) != CLOSE && wordAt(after(tree)) == DOTS;
+            if (tree < 0 || tree >= top || tree >= PLACES || word[tree] == CLOSE) {
+                return false;
+            }
+            int behind = tree + size[tree];
+            return behind >= 0 && behind < top && behind < PLACES && word[behind] == DOTS;
         }
 
         /** How many trees and .. stand from place i to the end of their bracket. */
         int itemsFrom(int i) {
             int items = 0;
             int depth = 0;
-            for (int k = i < 0 ? 0 : i; k < top && k < PLACES; k++) {
+            for (int k = i < 0 ? 0 : i; k < top && k < PLACES && depth >= 0; k++) {
                 if (word[k] == CLOSE) {
                     depth--;
-                    if (depth < 0) {
-                        break;
-                    }
                 } else {
                     items += depth == 0 ? 1 : 0;
                     depth += word[k] == OPEN ? 1 : 0;
@@ -262,19 +274,14 @@ public final class MarkedNames {
             return items;
         }
 
+        /** Whether .. stands in the list itself, not only in lists in it. */
         boolean hasDots(int list) {
             int depth = 0;
-            for (int k = list < 0 ? 0 : list; k < top && k < PLACES; k++) {
-                if (word[k] == OPEN) {
-                    depth++;
-                } else if (word[k] == CLOSE) {
-                    depth--;
-                } else if (word[k] == DOTS && depth == 1) {
+            for (int k = list < 0 ? 0 : list + 1; k < top && k < PLACES && depth >= 0; k++) {
+                if (word[k] == DOTS && depth == 0) {
                     return true;
                 }
-                if (depth <= 0) {
-                    break;
-                }
+                depth += word[k] == OPEN ? 1 : word[k] == CLOSE ? -1 : 0;
             }
             return false;
         }
@@ -288,8 +295,8 @@ public final class MarkedNames {
         int holders(int root, int i) {
             int holders = 0;
             for (int k = root < 0 ? 0 : root + 1; k <= i && k < top && k < PLACES; k++) {
-                int behind = isTree(word[k]) ? k + size[k] : k;
-                if (behind > i && behind < top && behind < PLACES && word[behind] == DOTS) {
+                int behind = k + size[k];
+                if (behind > i && behind < top && behind < PLACES && word[k] != CLOSE && word[behind] == DOTS) {
                     holders++;
                 }
             }
@@ -530,21 +537,11 @@ public final class MarkedNames {
                 if (variable >= 0 && row.holders(template, i) != row.holders(pattern, variable)) {
                     return false;
                 }
-                if (row.isHeld(i) && !hasUse(i)) {
+                if (row.isHeld(i) && !row.hasUse(i)) {
                     return false;
                 }
             }
             return true;
-        }
-
-        private boolean hasUse(int tree) {
-            int end = row.after(tree);
-            for (int i = tree; i < end; i++) {
-                if (row.variableAt(i) >= 0) {
-                    return true;
-                }
-            }
-            return false;
         }
     }
 
@@ -771,7 +768,7 @@ public final class MarkedNames {
         Table() {
             for (int i = 0; i < FIRST_NAMES.length && i < MOST_BINDINGS; i++) {
                 name[i] = FIRST_NAMES[i];
-                kind[i] = i < CORE_FORMS ? CORE : VALUE;
+                kind[i] = Math.min(i, VALUE);
             }
             length = FIRST_NAMES.length;
         }
@@ -841,7 +838,7 @@ public final class MarkedNames {
         }
 
         int kindOf(int binding) {
-            return binding >= 0 && binding < MOST_BINDINGS ? kind[binding] : CORE;
+            return binding >= 0 && binding < MOST_BINDINGS ? kind[binding] : VALUE;
         }
 
         int valueOf(int binding) {
@@ -998,29 +995,38 @@ public final class MarkedNames {
         }
 
         private void expandList(int list, int around) {
-            int first = list + 1;
+            int first = row.wordAt(list + 1);
             if (around > MOST_AROUND) {
                 outcome.fail(LIMIT_ERROR);
                 return;
             }
-            if (row.wordAt(first) == CLOSE) {
+            if (first == CLOSE) {
                 outcome.fail(FORM_ERROR);
                 return;
             }
-            if (!isName(row.wordAt(first))) {
-                expandEach(list, around);
+            int binding = isName(first) ? meaningOf(list + 1) : Table.UNBOUND;
+            if (outcome.error != 0) {
                 return;
             }
-            int binding = meaningOf(first);
-            if (binding < 0) {
-                return;
-            }
-            if (table.kindOf(binding) == CORE) {
-                expandForm(list, around);
-            } else if (table.kindOf(binding) == RULES) {
-                expandByRules(list, table.valueOf(binding), around);
-            } else {
-                expandEach(list, around);
+            switch (table.kindOf(binding)) {
+                case FN_FORM:
+                    expandFn(list, around);
+                    break;
+                case IF_FORM:
+                    expandIf(list, around);
+                    break;
+                case Q_FORM:
+                    expandQ(list);
+                    break;
+                case LS_FORM:
+                    expandLs(list, around);
+                    break;
+                case RULES:
+                    expandByRules(list, table.valueOf(binding), around);
+                    break;
+                default:
+                    expandEach(list, around);
+                    break;
             }
         }
 
@@ -1038,43 +1044,6 @@ public final class MarkedNames {
             outcome.put(')');
         }
 
-        private void expandForm(int list, int around) {
-            int form = row.wordAt(list + 1);
-            if (!isForm(list, form)) {
-                outcome.fail(FORM_ERROR);
-                return;
-            }
-            switch (form) {
-                case FN:
-                    expandFn(list, around);
-                    break;
-                case IF:
-                    expandIf(list, around);
-                    break;
-                case Q:
-                    outcome.putTree(row, list);
-                    break;
-                default:
-                    expandLs(list, around);
-                    break;
-            }
-        }
-
-        private boolean isForm(int list, int form) {
-            int length = row.plainLength(list);
-            int second = list + 2;
-            switch (form) {
-                case FN:
-                    return length == 3 && areNames(second);
-                case IF:
-                    return length == 4;
-                case Q:
-                    return length == 2;
-                default:
-                    return length == 3 && check.isNameWithRules(second);
-            }
-        }
-
         private boolean areNames(int list) {
             int length = row.plainLength(list);
             for (int k = 0; k < length; k++) {
@@ -1088,6 +1057,10 @@ public final class MarkedNames {
         private void expandFn(int list, int around) {
             int names = list + 2;
             int body = row.after(names);
+            if (row.plainLength(list) != 3 || !areNames(names)) {
+                outcome.fail(FORM_ERROR);
+                return;
+            }
             int scope = newScope();
             if (scope < 0) {
                 return;
@@ -1134,6 +1107,10 @@ public final class MarkedNames {
         }
 
         private void expandIf(int list, int around) {
+            if (row.plainLength(list) != 4) {
+                outcome.fail(FORM_ERROR);
+                return;
+            }
             outcome.put('(');
             outcome.putName(IF);
             int part = list + 2;
@@ -1145,9 +1122,21 @@ public final class MarkedNames {
             outcome.put(')');
         }
 
+        private void expandQ(int list) {
+            if (row.plainLength(list) != 2) {
+                outcome.fail(FORM_ERROR);
+                return;
+            }
+            outcome.putTree(row, list);
+        }
+
         private void expandLs(int list, int around) {
             int named = list + 2;
             int body = row.after(named);
+            if (row.plainLength(list) != 3 || !check.isNameWithRules(named)) {
+                outcome.fail(FORM_ERROR);
+                return;
+            }
             int scope = newScope();
             if (scope < 0) {
                 return;
@@ -1176,6 +1165,9 @@ public final class MarkedNames {
                 return;
             }
             int filled = filler.fill(rule, list);
+            if (outcome.error != 0) {
+                return;
+            }
             row.turnScope(filled, scope);
             // What the list becomes stands where it was, so it is in no more lists than that.
             expandTree(filled, around);

@@ -90,6 +90,7 @@ public final class ExpandRulesTest {
         CHECKER.makes("(ls (if ((_ x) x)) (if 1))", "1");
         CHECKER.makes("(fn (a) (ls (m ((_) a)) (fn (a) (m))))", "(fn (v0) (fn (v1) v0))");
         CHECKER.makes("(ls (m ((_ a) (fn (a x) (a x)))) (m x))", "(fn (v0 v1) (v0 v1))");
+        CHECKER.makes("(ls (m ((_ a) (fn (x a) (a x)))) (m x))", "(fn (v0 v1) (v1 v0))");
         CHECKER.makes("(ls (m ((_ a) (ls (k ((_ x) (x a))) (k a)))) (m 1))", "(1 1)");
         CHECKER.makes("(fn (y) (ls (m ((_ k b) (ls (k ((_) y)) b))) (m z (z))))", "(fn (v0) v0)");
     }

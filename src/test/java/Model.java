@@ -7,7 +7,7 @@ import java.util.TreeSet;
 
 /** The document told once more, with objects and recursion, to hold the class against. */
 final class Model {
-    /** A tree; a list's items are its trees and, as null-named dots, its .. */
+    /** A tree, or .. in a list's items. */
     static final class Tree {
         char kind; // n name, # number, _ blank, ( list, . dots
         String name = "";

@@ -7,6 +7,7 @@ public final class RulesTest {
         patterns();
         templates();
         names();
+        longest();
         typedIsTaken();
         lastExpansionStays();
         CHECKER.end();
@@ -115,6 +116,22 @@ public final class RulesTest {
         CHECKER.makes(names, "(+ (a) (b) (c) (abc) (if (a) (q (c)) 1))", "(+ 3 2 5 4 (if 3 (q (c)) 1))");
         CHECKER.fails(names, "(e)", -1000);
         CHECKER.fails(names, "a", -3000);
+    }
+
+    /** Four names with rules of 120 tokens each, none of which is in the way of another. */
+    private static void longest() {
+        MarkedNames names = new MarkedNames();
+        String[] signs = {"+", "*", "=", "<"};
+        for (int k = 0; k < 4; k++) {
+            CHECKER.gives(names, "(" + "abcd".charAt(k) + "((" + "_".repeat(112) + ")" + signs[k] + "))", k + 1);
+        }
+        for (int k = 0; k < 4; k++) {
+            CHECKER.makes(names, "(" + "abcd".charAt(k) + "+".repeat(111) + ")", signs[k]);
+            CHECKER.fails(names, "(" + "abcd".charAt(k) + "+".repeat(110) + ")", -4000);
+        }
+        CHECKER.gives(names, "(c)", 4);
+        CHECKER.fails(names, "(c" + "+".repeat(111) + ")", -4000);
+        CHECKER.makes(names, "(d" + "+".repeat(111) + ")", "<");
     }
 
     private static void typedIsTaken() {
