@@ -2,12 +2,18 @@
 final class Checker {
     private int wrong = 0;
     private int checked = 0;
+    private String sentence = "";
+
+    /** The document's words that the next answers are due by; they are told with what is wrong. */
+    void sentence(String words) {
+        sentence = "\"" + words + "\": ";
+    }
 
     void same(String what, Object got, Object due) {
         checked++;
         if (!due.equals(got)) {
             wrong++;
-            System.out.println(what + " answered " + got + ", due is " + due);
+            System.out.println(sentence + what + " answered " + got + ", due is " + due);
         }
     }
 
@@ -61,6 +67,36 @@ final class Checker {
 
     void fails(String text, int due) {
         fails(new MarkedNames(), text, due);
+    }
+
+    /** A text that cannot be read, neither as a program nor as rules. */
+    void faulty(String text, int place) {
+        fails(text, -1 - place);
+        gives(new MarkedNames(), text, -1 - place);
+    }
+
+    /** Rules that are as told, given to an object and in ls; without the name before them. */
+    void asTold(String rules) {
+        gives(new MarkedNames(), "(m " + rules + ")", 1);
+        makes("(ls (m " + rules + ") 1)", "1");
+    }
+
+    void notAsTold(String rules) {
+        gives(new MarkedNames(), "(m " + rules + ")", -1000);
+        fails("(ls (m " + rules + ") 1)", -3000);
+    }
+
+    /** A new object that has been given these rules. */
+    MarkedNames with(String... rules) {
+        MarkedNames names = new MarkedNames();
+        for (int k = 0; k < rules.length; k++) {
+            gives(names, rules[k], k + 1);
+        }
+        return names;
+    }
+
+    void counts(MarkedNames names, String due) {
+        same("scopes, bindings, variables, fuel left", counts(names), due);
     }
 
     void end() {

@@ -12,16 +12,8 @@ public final class ExpandRulesTest {
         CHECKER.end();
     }
 
-    private static MarkedNames with(String... rules) {
-        MarkedNames names = new MarkedNames();
-        for (int k = 0; k < rules.length; k++) {
-            CHECKER.gives(names, rules[k], k + 1);
-        }
-        return names;
-    }
-
     private static void matching() {
-        MarkedNames names = with("(m ((_) 0) ((_ 7) 1) ((_ ()) 2) ((_ (a 1)) 3) ((_ (a 2 b ..)) 4) ((_ a _) 5) ((_ a b c ..) 6))");
+        MarkedNames names = CHECKER.with("(m ((_) 0) ((_ 7) 1) ((_ ()) 2) ((_ (a 1)) 3) ((_ (a 2 b ..)) 4) ((_ a _) 5) ((_ a b c ..) 6))");
         CHECKER.makes(names, "(m)", "0");
         CHECKER.makes(names, "(m 7)", "1");
         CHECKER.makes(names, "(m ())", "2");
@@ -40,19 +32,19 @@ public final class ExpandRulesTest {
     }
 
     private static void filling() {
-        CHECKER.makes(with("(m ((_ a) (q (a _ a))))"), "(m (x .. _))", "(q ((x .. _) _ (x .. _)))");
-        CHECKER.makes(with("(m ((m a) (q (m a))))"), "(m 1)", "(q (m 1))");
-        CHECKER.makes(with("(m ((_ + *) (* + +)))"), "(m 1 <)", "(< 1 1)");
-        CHECKER.makes(with("(m ((_ a) a))"), "(m (m (m 5)))", "5");
-        CHECKER.makes(with("(m ((_ a) (k a)))", "(k ((_ a) (q a)))"), "(m k)", "(q k)");
-        CHECKER.fails(with("(m ((_ a) (a)))"), "(m fn)", -3000);
-        CHECKER.fails(with("(m ((_ a) _))"), "(m 1)", -3000);
-        CHECKER.fails(with("(m ((_ a) ()))"), "(m 1)", -3000);
-        CHECKER.fails(with("(m ((_ a) a))"), "(m (1 ..))", -3000);
+        CHECKER.makes(CHECKER.with("(m ((_ a) (q (a _ a))))"), "(m (x .. _))", "(q ((x .. _) _ (x .. _)))");
+        CHECKER.makes(CHECKER.with("(m ((m a) (q (m a))))"), "(m 1)", "(q (m 1))");
+        CHECKER.makes(CHECKER.with("(m ((_ + *) (* + +)))"), "(m 1 <)", "(< 1 1)");
+        CHECKER.makes(CHECKER.with("(m ((_ a) a))"), "(m (m (m 5)))", "5");
+        CHECKER.makes(CHECKER.with("(m ((_ a) (k a)))", "(k ((_ a) (q a)))"), "(m k)", "(q k)");
+        CHECKER.fails(CHECKER.with("(m ((_ a) (a)))"), "(m fn)", -3000);
+        CHECKER.fails(CHECKER.with("(m ((_ a) _))"), "(m 1)", -3000);
+        CHECKER.fails(CHECKER.with("(m ((_ a) ()))"), "(m 1)", -3000);
+        CHECKER.fails(CHECKER.with("(m ((_ a) a))"), "(m (1 ..))", -3000);
     }
 
     private static void rounds() {
-        MarkedNames names = with("(m ((_ (a b ..) ..) (q ((a ..) (b .. a) ..))))", "(z ((_ (a ..) (b ..)) (q (9 (a b) .. 9))))",
+        MarkedNames names = CHECKER.with("(m ((_ (a b ..) ..) (q ((a ..) (b .. a) ..))))", "(z ((_ (a ..) (b ..)) (q (9 (a b) .. 9))))",
             "(t ((_ ((a ..) ..) ((b ..) ..)) (q (((a b) ..) ..))))", "(u ((_ (a ..) (b ..)) (q (a .. b .. (a ..)))))");
         CHECKER.makes(names, "(m)", "(q (()))");
         CHECKER.makes(names, "(m (1))", "(q ((1) (1)))");
@@ -69,12 +61,12 @@ public final class ExpandRulesTest {
         CHECKER.fails(names, "(t ((1)) ((1) (3)))", -4000);
         CHECKER.makes(names, "(u (1 2) (3))", "(q (1 2 3 (1 2)))");
         CHECKER.makes(names, "(u () (3))", "(q (3 ()))");
-        CHECKER.makes(with("(m ((_ (_ ..) ..) 1) ((_ (1 ..) ..) 2))"), "(m (1 2) ())", "1");
-        CHECKER.makes(with("(m ((_ (1 ..) ..) 1) ((_ x ..) 2))"), "(m (1 1) () (2))", "2");
+        CHECKER.makes(CHECKER.with("(m ((_ (_ ..) ..) 1) ((_ (1 ..) ..) 2))"), "(m (1 2) ())", "1");
+        CHECKER.makes(CHECKER.with("(m ((_ (1 ..) ..) 1) ((_ x ..) 2))"), "(m (1 1) () (2))", "2");
     }
 
     private static void hygiene() {
-        MarkedNames names = with("(or ((_ a b) ((fn (t) (if t t b)) a)))", "(let ((_ ((x e) ..) b) ((fn (x ..) b) e ..)))",
+        MarkedNames names = CHECKER.with("(or ((_ a b) ((fn (t) (if t t b)) a)))", "(let ((_ ((x e) ..) b) ((fn (x ..) b) e ..)))",
             "(my ((_ a) (if a 1 2)))", "(bnd ((_ x b) (fn (x) b)))");
         CHECKER.makes(names, "(fn (t) (or 1 t))", "(fn (v0) ((fn (v1) (if v1 v1 v0)) 1))");
         CHECKER.makes(names, "(or 1 (or 2 3))", "((fn (v0) (if v0 v0 ((fn (v1) (if v1 v1 3)) 2))) 1)");
@@ -96,7 +88,7 @@ public final class ExpandRulesTest {
     }
 
     private static void ambiguity() {
-        MarkedNames names = with("(k ((_ a) (fn (x) (ls (m ((_) (fn (a) x))) (m)))))",
+        MarkedNames names = CHECKER.with("(k ((_ a) (fn (x) (ls (m ((_) (fn (a) x))) (m)))))",
             "(h ((_ a) (fn (x) (ls (m ((_) (fn (a) (x)))) (m)))))");
         CHECKER.fails(names, "(k x)", -2000);
         CHECKER.same("counts of the ambiguous one", Checker.counts(names), "5 3 2 6");
@@ -105,7 +97,7 @@ public final class ExpandRulesTest {
     }
 
     private static void fuelAndOrder() {
-        MarkedNames names = with("(lp ((_) (lp)))", "(s ((_ a ..) (fn (x) (a ..))))");
+        MarkedNames names = CHECKER.with("(lp ((_) (lp)))", "(s ((_ a ..) (fn (x) (a ..))))");
         CHECKER.fails(names, "(lp)", -5000);
         CHECKER.same("counts", Checker.counts(names), "8 0 0 0");
         Checker.typeText(names, "(s .. 1)");

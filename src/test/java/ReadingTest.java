@@ -9,26 +9,21 @@ public final class ReadingTest {
         CHECKER.end();
     }
 
-    private static void faulty(String text, int place) {
-        CHECKER.fails(text, -1 - place);
-        CHECKER.gives(new MarkedNames(), text, -1 - place);
-    }
-
     private static void tokens() {
-        faulty("", 0);
-        faulty("   ", 3);
-        faulty("abcd", 0);
-        faulty("(q abcd)", 3);
-        faulty("07", 0);
-        faulty("00", 0);
-        faulty("(1 100)", 3);
-        faulty("A", 0);
-        faulty("(a B)", 3);
-        faulty("-", 0);
-        faulty("~", 0);
-        faulty("1 2", 2);
-        faulty("1abcd", 1);
-        faulty("a)", 1);
+        CHECKER.faulty("", 0);
+        CHECKER.faulty("   ", 3);
+        CHECKER.faulty("abcd", 0);
+        CHECKER.faulty("(q abcd)", 3);
+        CHECKER.faulty("07", 0);
+        CHECKER.faulty("00", 0);
+        CHECKER.faulty("(1 100)", 3);
+        CHECKER.faulty("A", 0);
+        CHECKER.faulty("(a B)", 3);
+        CHECKER.faulty("-", 0);
+        CHECKER.faulty("~", 0);
+        CHECKER.faulty("1 2", 2);
+        CHECKER.faulty("1abcd", 1);
+        CHECKER.faulty("a)", 1);
         CHECKER.makes("  0  ", "0");
         CHECKER.makes("99", "99");
         CHECKER.makes("(q(ab1c_+*=<10))", "(q (ab 1 c _ + * = < 10))");
@@ -36,29 +31,29 @@ public final class ReadingTest {
     }
 
     private static void dots() {
-        faulty("..", 0);
-        faulty("a ..", 2);
-        faulty("(..)", 1);
-        faulty("(( ..))", 3);
-        faulty("(a .. ..)", 6);
-        faulty("(a ....)", 5);
-        faulty("(a ...)", 5);
-        faulty("(a . b)", 3);
-        faulty("(a .", 3);
-        faulty("(a ..", 5);
-        faulty("(a) ..", 4);
+        CHECKER.faulty("..", 0);
+        CHECKER.faulty("a ..", 2);
+        CHECKER.faulty("(..)", 1);
+        CHECKER.faulty("(( ..))", 3);
+        CHECKER.faulty("(a .. ..)", 6);
+        CHECKER.faulty("(a ....)", 5);
+        CHECKER.faulty("(a ...)", 5);
+        CHECKER.faulty("(a . b)", 3);
+        CHECKER.faulty("(a .", 3);
+        CHECKER.faulty("(a ..", 5);
+        CHECKER.faulty("(a) ..", 4);
         CHECKER.makes("(q (a ..b .. (c) ..))", "(q (a .. b .. (c) ..))");
     }
 
     private static void brackets() {
-        faulty(")", 0);
-        faulty("(a", 2);
-        faulty("(a  ", 4);
-        faulty("(a))", 3);
-        faulty("()()", 2);
-        faulty("(((((((((1)))))))))", 8);
-        faulty("((((((((", 8);
-        faulty("(1 (((((((1))))))) ((((((((1)))))))))", 26);
+        CHECKER.faulty(")", 0);
+        CHECKER.faulty("(a", 2);
+        CHECKER.faulty("(a  ", 4);
+        CHECKER.faulty("(a))", 3);
+        CHECKER.faulty("()()", 2);
+        CHECKER.faulty("(((((((((1)))))))))", 8);
+        CHECKER.faulty("((((((((", 8);
+        CHECKER.faulty("(1 (((((((1))))))) ((((((((1)))))))))", 26);
         CHECKER.makes("((((((((1))))))))", "((((((((1))))))))");
     }
 }

@@ -13,33 +13,22 @@ public final class RulesTest {
         CHECKER.end();
     }
 
-    /** Rules that are as told, given to an object and in ls; the list is without its name. */
-    private static void asTold(String rules) {
-        CHECKER.gives(new MarkedNames(), "(m " + rules + ")", 1);
-        CHECKER.makes("(ls (m " + rules + ") 1)", "1");
-    }
-
-    private static void notAsTold(String rules) {
-        CHECKER.gives(new MarkedNames(), "(m " + rules + ")", -1000);
-        CHECKER.fails("(ls (m " + rules + ") 1)", -3000);
-    }
-
     private static void lists() {
-        asTold("");
-        asTold("((_) 1)");
-        asTold("((_) 1) ((_ a) a)");
-        notAsTold("1");
-        notAsTold("x");
-        notAsTold("_");
-        notAsTold("()");
-        notAsTold("((_))");
-        notAsTold("((_) 1 2)");
-        notAsTold("((_) ..)");
-        notAsTold("((_) .. 1)");
-        notAsTold("((_) 1 ..)");
-        notAsTold("((_) 1) ..");
-        notAsTold("..");
-        notAsTold("((_) 1) ((_))");
+        CHECKER.asTold("");
+        CHECKER.asTold("((_) 1)");
+        CHECKER.asTold("((_) 1) ((_ a) a)");
+        CHECKER.notAsTold("1");
+        CHECKER.notAsTold("x");
+        CHECKER.notAsTold("_");
+        CHECKER.notAsTold("()");
+        CHECKER.notAsTold("((_))");
+        CHECKER.notAsTold("((_) 1 2)");
+        CHECKER.notAsTold("((_) ..)");
+        CHECKER.notAsTold("((_) .. 1)");
+        CHECKER.notAsTold("((_) 1 ..)");
+        CHECKER.notAsTold("((_) 1) ..");
+        CHECKER.notAsTold("..");
+        CHECKER.notAsTold("((_) 1) ((_))");
         for (String none : new String[] {"m", "7", "_", "()", "(1)", "(_)", "((m) ((_) 1))"}) {
             CHECKER.gives(new MarkedNames(), none, -1000);
         }
@@ -49,53 +38,53 @@ public final class RulesTest {
     }
 
     private static void patterns() {
-        asTold("(((_ ..)) 1)");
-        asTold("(((a .. b ..) c) c)");
-        asTold("((a a) a)");
-        asTold("((((((b ..) ..) ..)) a) a)");
-        asTold("((_ a ..) 1)");
-        asTold("((_ (a ..) ..) 1)");
-        asTold("((_ (a b ..) (c ..)) 1)");
-        asTold("((_ () (()) _ _ 7) 1)");
-        asTold("((_ fn + q) (fn + q))");
-        notAsTold("(x 1)");
-        notAsTold("(1 1)");
-        notAsTold("(() 1)");
-        notAsTold("((_ ..) 1)");
-        notAsTold("((a .. b) 1)");
-        notAsTold("((_ a .. b) 1)");
-        notAsTold("((_ a .. b ..) 1)");
-        notAsTold("((_ (a .. b)) 1)");
-        notAsTold("((_ a a) 1)");
-        notAsTold("((_ a (b (a))) 1)");
-        notAsTold("((_ ((a ..) ..) ..) 1)");
-        notAsTold("((_ ((1 ..) ..) ..) 1)");
-        notAsTold("((_ ((_ ..) ..) ..) 1)");
-        notAsTold("((_ (() ..) .. 1) 1)");
+        CHECKER.asTold("(((_ ..)) 1)");
+        CHECKER.asTold("(((a .. b ..) c) c)");
+        CHECKER.asTold("((a a) a)");
+        CHECKER.asTold("((((((b ..) ..) ..)) a) a)");
+        CHECKER.asTold("((_ a ..) 1)");
+        CHECKER.asTold("((_ (a ..) ..) 1)");
+        CHECKER.asTold("((_ (a b ..) (c ..)) 1)");
+        CHECKER.asTold("((_ () (()) _ _ 7) 1)");
+        CHECKER.asTold("((_ fn + q) (fn + q))");
+        CHECKER.notAsTold("(x 1)");
+        CHECKER.notAsTold("(1 1)");
+        CHECKER.notAsTold("(() 1)");
+        CHECKER.notAsTold("((_ ..) 1)");
+        CHECKER.notAsTold("((a .. b) 1)");
+        CHECKER.notAsTold("((_ a .. b) 1)");
+        CHECKER.notAsTold("((_ a .. b ..) 1)");
+        CHECKER.notAsTold("((_ (a .. b)) 1)");
+        CHECKER.notAsTold("((_ a a) 1)");
+        CHECKER.notAsTold("((_ a (b (a))) 1)");
+        CHECKER.notAsTold("((_ ((a ..) ..) ..) 1)");
+        CHECKER.notAsTold("((_ ((1 ..) ..) ..) 1)");
+        CHECKER.notAsTold("((_ ((_ ..) ..) ..) 1)");
+        CHECKER.notAsTold("((_ (() ..) .. 1) 1)");
     }
 
     private static void templates() {
-        asTold("((_ a ..) (a ..))");
-        asTold("((_ a ..) ((q a) .. 1))");
-        asTold("((_ (a ..) ..) ((a ..) ..))");
-        asTold("((_ (a b ..) ..) ((b .. a) .. (a ..)))");
-        asTold("((_ a) _)");
-        asTold("((_ a) ())");
-        asTold("((a b) (a b))");
-        notAsTold("((_ a ..) a)");
-        notAsTold("((_ a ..) (a))");
-        notAsTold("((_ a) (a ..))");
-        notAsTold("((_ a) (1 ..))");
-        notAsTold("((_ a) (_ ..))");
-        notAsTold("((_ a) (() ..))");
-        notAsTold("((a b) (a ..))");
-        notAsTold("((_ a ..) ((a ..) ..))");
-        notAsTold("((_ a b ..) ((a b) ..))");
-        notAsTold("((_ (a ..) ..) (a ..))");
-        notAsTold("((_ (a b ..) ..) ((a b) ..))");
-        notAsTold("((_ (a ..) ..) ((a ..)))");
-        notAsTold("((_ a ..) (a .. (1 ..)))");
-        notAsTold("((_ (a ..) ..) (((a ..) ..) ..))");
+        CHECKER.asTold("((_ a ..) (a ..))");
+        CHECKER.asTold("((_ a ..) ((q a) .. 1))");
+        CHECKER.asTold("((_ (a ..) ..) ((a ..) ..))");
+        CHECKER.asTold("((_ (a b ..) ..) ((b .. a) .. (a ..)))");
+        CHECKER.asTold("((_ a) _)");
+        CHECKER.asTold("((_ a) ())");
+        CHECKER.asTold("((a b) (a b))");
+        CHECKER.notAsTold("((_ a ..) a)");
+        CHECKER.notAsTold("((_ a ..) (a))");
+        CHECKER.notAsTold("((_ a) (a ..))");
+        CHECKER.notAsTold("((_ a) (1 ..))");
+        CHECKER.notAsTold("((_ a) (_ ..))");
+        CHECKER.notAsTold("((_ a) (() ..))");
+        CHECKER.notAsTold("((a b) (a ..))");
+        CHECKER.notAsTold("((_ a ..) ((a ..) ..))");
+        CHECKER.notAsTold("((_ a b ..) ((a b) ..))");
+        CHECKER.notAsTold("((_ (a ..) ..) (a ..))");
+        CHECKER.notAsTold("((_ (a b ..) ..) ((a b) ..))");
+        CHECKER.notAsTold("((_ (a ..) ..) ((a ..)))");
+        CHECKER.notAsTold("((_ a ..) (a .. (1 ..)))");
+        CHECKER.notAsTold("((_ (a ..) ..) (((a ..) ..) ..))");
     }
 
     private static void names() {
